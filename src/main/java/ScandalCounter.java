@@ -34,7 +34,14 @@ public final class ScandalCounter {
     private static final int MOST_OWED = 9999;
     private static final int MOST_HINTS = 99999;
     private static final int MOST_DAY = 99999;
-    private static final int FARTHEST = 200;
+    // How many days (or, of gossip, draws) a call takes at most.
+    private static final int MOST_GONE = 60;
+    private static final int MOST_FORESEEN = 100;
+    private static final int MOST_AWAITED = 200;
+    private static final int MOST_TRIED = 40;
+    private static final int MOST_REFUSED = 20;
+    private static final int MOST_DRAWN = 20;
+
     private static final int SPOTS = 10;
     private static final int SHEETS = 4;
     private static final int MOST_NUMBERS = 40;
@@ -129,7 +136,7 @@ public final class ScandalCounter {
     // ---- days
 
     public int go(int n) {
-        if (!within(n, 1, 60)) {
+        if (!within(n, 1, MOST_GONE)) {
             return found(BEYOND);
         }
         if (county.day + n > MOST_DAY) {
@@ -157,7 +164,7 @@ public final class ScandalCounter {
 
     public int ahead(int person, int what, int n) {
         boolean isTold = what == ATTRIBUTE_OWED || what == ATTRIBUTE_BORNE || what == ATTRIBUTE_TOLD;
-        if (!county.has(person) || !isTold || !within(n, 0, 100)) {
+        if (!county.has(person) || !isTold || !within(n, 0, MOST_FORESEEN)) {
             return found(BEYOND);
         }
         trial.become(county);
@@ -166,7 +173,7 @@ public final class ScandalCounter {
     }
 
     public int hints(int n) {
-        if (!within(n, 0, 100)) {
+        if (!within(n, 0, MOST_FORESEEN)) {
             return found(BEYOND);
         }
         trial.become(county);
@@ -176,7 +183,7 @@ public final class ScandalCounter {
 
     public int even() {
         trial.become(county);
-        for (int days = 0; days <= FARTHEST; days++) {
+        for (int days = 0; days <= MOST_AWAITED; days++) {
             if (trial.isEven()) {
                 return days;
             }
@@ -198,7 +205,7 @@ public final class ScandalCounter {
 
     private int daysToBorne(int person, int least, int most) {
         trial.become(county);
-        for (int days = 0; days <= FARTHEST; days++) {
+        for (int days = 0; days <= MOST_AWAITED; days++) {
             if (within(trial.people[person].borne, least, most)) {
                 return days;
             }
@@ -210,11 +217,11 @@ public final class ScandalCounter {
     // ---- whom, how
 
     public int whom(int n) {
-        if (!within(n, 0, 40)) {
+        if (!within(n, 0, MOST_TRIED)) {
             return found(BEYOND);
         }
         int best = NOBODY;
-        int least = Integer.MAX_VALUE;
+        int least = MOST_PEOPLE * MOST_OWED + 1;
         for (int i = 0; i < county.size; i++) {
             trial.become(county);
             trial.setNext(i, county.nextWeight());
@@ -229,7 +236,7 @@ public final class ScandalCounter {
     }
 
     public int weightFor(int n) {
-        if (!within(n, 1, 40)) {
+        if (!within(n, 1, MOST_TRIED)) {
             return found(BEYOND);
         }
         for (int weight = MOST_WEIGHT; weight >= 0; weight--) {
@@ -243,7 +250,7 @@ public final class ScandalCounter {
     }
 
     public int buildFor(int person, int n) {
-        if (!county.has(person) || !within(n, 0, 40)) {
+        if (!county.has(person) || !within(n, 0, MOST_TRIED)) {
             return found(BEYOND);
         }
         for (int build = 0; build <= MOST_BUILD; build++) {
@@ -257,11 +264,11 @@ public final class ScandalCounter {
     }
 
     public int kindFor(int person, int n) {
-        if (!county.has(person) || !within(n, 0, 40)) {
+        if (!county.has(person) || !within(n, 0, MOST_TRIED)) {
             return found(BEYOND);
         }
         int best = 0;
-        int least = Integer.MAX_VALUE;
+        int least = MOST_OWED + 1;
         for (int kind = 0; kind < KINDS; kind++) {
             trial.become(county);
             trial.people[person].kind = kind;
@@ -276,7 +283,7 @@ public final class ScandalCounter {
     }
 
     public int refuse(int person, int v, int n) {
-        if (!county.has(person) || !within(v, 0, MOST_OWED) || !within(n, 0, 20)) {
+        if (!county.has(person) || !within(v, 0, MOST_OWED) || !within(n, 0, MOST_REFUSED)) {
             return found(BEYOND);
         }
         for (int members = 0; members < county.size; members++) {
@@ -297,17 +304,17 @@ public final class ScandalCounter {
     }
 
     public int swapFor(int n) {
-        if (!within(n, 0, 40)) {
+        if (!within(n, 0, MOST_TRIED)) {
             return found(BEYOND);
         }
         int best = NOBODY;
-        int fewest = Integer.MAX_VALUE;
+        int fewest = MOST_HINTS + 1;
         for (int a = 0; a < county.size; a++) {
             for (int b = a + 1; b < county.size; b++) {
                 int left = hintsWithSwapped(a, b, n);
                 if (left < fewest) {
                     fewest = left;
-                    best = 8 * a + b;
+                    best = MOST_PEOPLE * a + b;
                 }
             }
         }
@@ -397,7 +404,7 @@ public final class ScandalCounter {
     // ---- gossip
 
     public int gossip(int n) {
-        if (!within(n, 1, 20)) {
+        if (!within(n, 1, MOST_DRAWN)) {
             return found(BEYOND);
         }
         if (county.day + n > MOST_DAY) {
@@ -413,7 +420,7 @@ public final class ScandalCounter {
     }
 
     public long odds(int n, int what) {
-        if (!within(n, 0, 20) || !within(what, 0, 1)) {
+        if (!within(n, 0, MOST_DRAWN) || !within(what, 0, 1)) {
             return found(BEYOND);
         }
         int above = county.withRoom();
@@ -807,7 +814,7 @@ public final class ScandalCounter {
         }
 
         boolean has(int number) {
-            return within(number, 0, size - 1);
+            return number >= 0 && number < size;
         }
 
         /** The number of the new one; NOBODY if there is no place for one. */

@@ -150,12 +150,17 @@ public final class DaysTest {
         return x.now(5);
     }
 
-    /** No object that is promised anything gets this old (512 calls); the limits stand all the same. */
-    private static void lastDay() {
+    private static ScandalCounter old() {
         ScandalCounter x = Due.county(Due.PERSON);
         for (int i = 0; i < 1666; i++) {
             x.go(60);
         }
+        return x;
+    }
+
+    /** No object that is promised anything gets this old (512 calls); the limits stand all the same. */
+    private static void lastDay() {
+        ScandalCounter x = old();
         Due.due("9: near the last day", x.now(0), 99960);
         Due.due("9: one day too many", x.go(40), Due.STATE);
         x.gossip(20);
@@ -167,5 +172,9 @@ public final class DaysTest {
         Due.due("25: no more", x.gossip(1), Due.STATE);
         Due.due("25: BEYOND is asked first", x.gossip(21), Due.BEYOND);
         Due.due("11: still answered", x.ahead(0, 4, 100), 0);
+        x = old();
+        x.go(19);
+        Due.due("25: the last days", x.gossip(20), x.now(1));
+        Due.due("25: the last day", x.now(0), 99999);
     }
 }

@@ -62,6 +62,7 @@ public final class HowTest {
         x.change(0, 1, 7);
         Due.text(x, "hints 5");
         Due.due("18: behind none", x.buildFor(1, 0), 0);
+        Due.due("18: behind 40", x.buildFor(1, 40), 7);
         Due.due("18: 7 must be borne", x.buildFor(1, 1), 7);
         Due.due("18: and 1 of it again", x.buildFor(1, 2), 7);
         x.change(1, 3, 92);
@@ -101,6 +102,7 @@ public final class HowTest {
         Due.due("20: two", x.refuse(0, 3, 1), 6);
         Due.due("20: two, at the edge", x.refuse(0, 0, 1), 6);
         Due.due("20: behind none", x.refuse(0, 0, 0), 0);
+        Due.due("20: behind 20", x.refuse(0, 9999, 20), 0);
         x.change(0, 3, 5);
         Due.due("20: what is borne already", x.refuse(0, 4, 0), Due.NONE);
         Due.due("20: but for what is forgotten", x.refuse(0, 4, 1), 6);

@@ -104,6 +104,11 @@ public final class TextsTest {
         fault("ladyduke", 0);
         fault("  ladies", 2);
         fault("lad", 0);
+        fault("xady", 0);
+        fault("laxy", 0);
+        fault("ladx", 0);
+        fault("ladyz", 0);
+        fault("ladya", 0);
         fault("lady build", 10);
         fault("lady build ;", 11);
         fault("lady build 100", 11);
