@@ -172,9 +172,27 @@ public final class DaysTest {
         Due.due("25: no more", x.gossip(1), Due.STATE);
         Due.due("25: BEYOND is asked first", x.gossip(21), Due.BEYOND);
         Due.due("11: still answered", x.ahead(0, 4, 100), 0);
+        dayStays(x);
         x = old();
         x.go(19);
         Due.due("25: the last days", x.gossip(20), x.now(1));
         Due.due("25: the last day", x.now(0), 99999);
+    }
+
+    /** DAY is 99999 at most: 3 by 6 and 4 by 7, on each DAY that is tried behind it. */
+    private static void dayStays(ScandalCounter x) {
+        x.change(0, 0, Due.LADY);
+        x.change(0, 1, 0);
+        x.change(0, 3, 0);
+        for (int i = 0; i < 6; i++) {
+            x.say(i, 0, i == 3 ? 7 : 0);
+        }
+        Due.due("11: the same SAYING on each DAY behind the last", x.ahead(0, 3, 100), 700);
+        Due.due("14: on each of 200 DAYS", x.when(0, 1400), 200);
+        x.change(0, 0, Due.BISHOP);
+        x.change(0, 1, 5);
+        x.say(3, 0, 0);
+        Due.due("13: a BISHOP's DAY never comes", x.even(), Due.NONE);
+        Due.due("11: nothing changes", x.now(0), 99999);
     }
 }

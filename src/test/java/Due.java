@@ -38,6 +38,20 @@ final class Due {
         }
     }
 
+    /** What an argument from least to most is just not, and the ends of an int. */
+    static int[] outside(int least, int most) {
+        return new int[] {least - 1, most + 1, Integer.MIN_VALUE, Integer.MAX_VALUE};
+    }
+
+    /** The most PEOPLE, of one kind and BUILD. */
+    static ScandalCounter eight(int kind, int build) {
+        ScandalCounter x = new ScandalCounter();
+        for (int i = 0; i < 8; i++) {
+            x.person(kind, build);
+        }
+        return x;
+    }
+
     static ScandalCounter county(int... kinds) {
         ScandalCounter x = new ScandalCounter();
         for (int kind : kinds) {
