@@ -35,6 +35,8 @@ public final class FaceTest {
         }
         Set<String> due = new TreeSet<>(Set.of(FACE));
         Due.due("methods are " + visible, visible.equals(due) ? 1 : 0, 1);
+        Due.due("there are some twelve classes at most", face.getDeclaredClasses().length < 12 ? 1 : 0, 1);
+        Due.due("some twenty fields at most", fieldsOf(face) <= 20 ? 1 : 0, 1);
         inside(face, privateNames);
         privateNames.retainAll(publicNames);
         Due.due("private methods with a public name: " + privateNames, privateNames.size(), 0);
@@ -52,10 +54,22 @@ public final class FaceTest {
         for (Class<?> nested : face.getDeclaredClasses()) {
             Due.due(nested + " is static", Modifier.isStatic(nested.getModifiers()) ? 1 : 0, 1);
             Due.due(nested + " is not public", Modifier.isPublic(nested.getModifiers()) ? 1 : 0, 0);
+            Due.due(nested + " has some twenty fields at most", fieldsOf(nested) <= 20 ? 1 : 0, 1);
             for (Method method : nested.getDeclaredMethods()) {
                 names.add(method.getName());
             }
         }
+    }
+
+    private static int fieldsOf(Class<?> one) {
+        int fields = 0;
+        for (Field field : one.getDeclaredFields()) {
+            fields += Modifier.isStatic(field.getModifiers()) ? 0 : 1;
+            Due.due(field + " is final, if it is static", field.getModifiers() & (Modifier.STATIC | Modifier.FINAL),
+                    Modifier.isStatic(field.getModifiers()) ? Modifier.STATIC | Modifier.FINAL
+                            : field.getModifiers() & Modifier.FINAL);
+        }
+        return fields;
     }
 
     private static String signature(Method method) {

@@ -1,10 +1,17 @@
 import java.nio.charset.StandardCharsets;
 import java.nio.file.Files;
 import java.nio.file.Path;
+import java.util.ArrayList;
+import java.util.HashMap;
+import java.util.List;
+import java.util.Map;
 import java.util.regex.Matcher;
 import java.util.regex.Pattern;
 
-/** Rules of LANGUAGE.md that can be seen in the text of the class, and that nothing is made but by constructors. */
+/**
+ * Rules of LANGUAGE.md that can be seen in the text of the class, that nothing is made but by constructors, and how
+ * deep calls go.
+ */
 public final class LanguageTest {
     private static final String[] REFUSED = {
         "\\b(import|package|throw|throws|try|catch|finally|synchronized|assert|protected|native|volatile|transient)\\b",
@@ -26,6 +33,7 @@ public final class LanguageTest {
             Due.due("refused: " + refused, matcher.find() ? 1 : 0, 0);
         }
         members(code);
+        depth(code);
         Due.end();
     }
 
@@ -47,5 +55,44 @@ public final class LanguageTest {
             made += news;
         }
         Due.due("all that is made was seen", made, code.split("\\bnew\\b", -1).length - 1);
+    }
+
+    private static void depth(String code) {
+        Map<String, List<String>> calls = callsByName(code);
+        for (String name : calls.keySet()) {
+            Due.due("calls below " + name + " go at most eight deep", deepest(name, calls, 1) <= 8 ? 1 : 0, 1);
+        }
+    }
+
+    /** By names alone, so methods of one name count as one: it may tell too deep, but never too little. */
+    private static Map<String, List<String>> callsByName(String code) {
+        Map<String, List<String>> calls = new HashMap<>();
+        Matcher member = MEMBER.matcher(code);
+        while (member.find()) {
+            if (member.group(2) == null) {
+                continue;
+            }
+            int end = code.indexOf("\n" + member.group(1) + "}", member.end());
+            Matcher call = Pattern.compile("(\\w+)\\(").matcher(code.substring(member.end(), end));
+            List<String> called = calls.computeIfAbsent(member.group(3), name -> new ArrayList<>());
+            while (call.find()) {
+                boolean isWord = call.group(1).matches("if|for|while|switch|return");
+                // County.become calls Person.become, which is no recursion.
+                boolean isTwice = call.group(1).equals("become") && member.group(3).equals("become");
+                if (!isWord && !isTwice && !called.contains(call.group(1))) {
+                    called.add(call.group(1));
+                }
+            }
+        }
+        return calls;
+    }
+
+    private static int deepest(String name, Map<String, List<String>> calls, int depth) {
+        int most = depth;
+        // A chain that is already too deep (a recursion would be without end) is not followed further.
+        for (String called : depth > 20 ? List.<String>of() : calls.getOrDefault(name, List.of())) {
+            most = Math.max(most, deepest(called, calls, depth + 1));
+        }
+        return most;
     }
 }
